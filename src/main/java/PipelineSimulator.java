@@ -1292,14 +1292,14 @@ public final class PipelineSimulator {
             }
             Records input = simulation.input;
             for (int i = done; i < simulation.offset; i++) {
-                follow(1, input.keyAt(i), input.valueAt(i));
+                follow(simulation, 1, input.keyAt(i), input.valueAt(i));
             }
             done = simulation.offset;
         }
 
-        private void follow(int number, int key, int value) {
+        private static void follow(Simulation simulation, int number, int key, int value) {
             Operator each = simulation.operatorAt(number);
-            if (each == null || number >= MOST_OPERATORS) {
+            if (number >= MOST_OPERATORS || each == null) {
                 return;
             }
             Records out = each.plainList;
@@ -1307,7 +1307,7 @@ public final class PipelineSimulator {
             each.handle(each.plainStates, key, value, 0, out);
             int emitted = out.size;
             for (int i = 0; i < emitted; i++) {
-                follow(number + 1, out.keyAt(i), out.valueAt(i));
+                follow(simulation, number + 1, out.keyAt(i), out.valueAt(i));
             }
         }
     }

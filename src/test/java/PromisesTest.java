@@ -24,6 +24,7 @@ public final class PromisesTest {
         targets();
         isQuiet();
         checkpoint();
+        barrierWithoutRoom();
         alignment();
         checkpointOfSourceList();
         fail();
@@ -157,11 +158,11 @@ public final class PromisesTest {
             due("reading " + good[i], read(new PipelineSimulator(), good[i]), stages[i]);
         }
         String[] bad = {"x", "D", " d", "|", "d|", "d|x", "d||d", "|d", "d|d|d|d|d", "d4", "d0", "d11", "d(", "d$", "$", "$0", "$4",
-            "$11", "$1|d", "d$2d", "m", "m(", "m()", "m(,", "m(1", "m(1)", "m(1,", "m(1,2", "m(1,2,", "m(100,1)", "m(-", "m(--1,1)",
+            "$11", "d\0", "$1\0", "$1|d", "d$2d", "m", "m(", "m()", "m(,", "m(1", "m(1)", "m(1,", "m(1,2", "m(1,2,", "m(100,1)", "m(-", "m(--1,1)",
             "m(-100,1)", "m(1 ,2)", "m[1,2)", "f(3,1)", "f(-1,1)", "f(3", "f(12,1)", "f(1,100)", "c(4)", "c(4", "c(40)", "c(-1)",
             "c(1,1)", "s(0)", "s(6)", "s(-0)", "s(00)", "s(51)", "s(1)4", "s(1)|", "k(1)", "r()", "$3$3", "\0", "m(a,1)"};
         int[] at = {0, 0, 0, 0, 2, 2, 2, 0, 7, 1, 1, 2, 1, 2, 1, 1, 1,
-            2, 2, 3, 1, 2, 2, 2, 3, 3, 4, 5, 5, 4, 3, 3,
+            2, 1, 2, 2, 3, 1, 2, 2, 2, 3, 3, 4, 5, 5, 4, 3, 3,
             5, 3, 1, 3, 4, 3, 4, 6, 3, 3, 4, 4,
             3, 3, 3, 4, 4, 4, 4, 5, 3, 1, 2, 0, 2};
         for (int i = 0; i < bad.length; i++) {
@@ -205,6 +206,21 @@ public final class PromisesTest {
         due("the input stays", x.state(2, 3, 0), 9);
         due("an empty text", x.readPipeline(), 0);
         due("operators", x.count(0), 2);
+        PipelineSimulator y = with("m(5,6)2|k(7,8)$2", 1, 1, 4, 5);
+        pushAll(y, 1, 1, 2, 3);
+        y.tick(200);
+        y.checkpoint();
+        y.tick(200);
+        read(y, "d|c(2)");
+        for (int o = 0; o < 4; o++) {
+            due("no a is left", y.operator(o, 2), o == 2 ? 2 : 0);
+            due("no b is left", y.operator(o, 3), 0);
+            due("one instance", y.operator(o, 1), 1);
+            due("no counter is left", y.instance(o, 0, 4), 0);
+        }
+        y.fail();
+        due("nor in checkpoint 0", y.instance(0, 0, 4), 0);
+        due("the offset of checkpoint 0", y.count(2), 0);
     }
 
     private static void configure() {
@@ -480,6 +496,36 @@ public final class PromisesTest {
         due("before the barrier", y.savedState(1, 1, 0), 7);
     }
 
+    private static void barrierWithoutRoom() {
+        promise = "8, room";
+        PipelineSimulator x = with("c(3)|d2", 1, 9, 2, 1);
+        x.push(7, 1);
+        x.tick(1);
+        x.checkpoint();
+        x.tick(2);
+        due("held", x.instance(1, 0, 1), 1);
+        due("blocked", x.operator(1, 6), 1);
+        due("its list is sent", x.instance(1, 0, 0), 0);
+        due("the channel without room", x.channel(1, 0, 1, 0), 1);
+        due("its open batch", x.channel(1, 0, 1, 1), 1);
+        due("the other one gets none", x.channel(1, 0, 0, 0), 0);
+        dueLevels(x, 1, 0, 10, 2, 21, 5);
+        x.tick(1);
+        due("put", x.instance(1, 0, 1), 0);
+        due("batch and barrier", x.channel(1, 0, 1, 0), 2);
+        due("barrier", x.channel(1, 0, 0, 0), 1);
+        due("a source alone", x.operator(0, 6), 0);
+        // with one channel alone
+        PipelineSimulator y = with("c(3)", 1, 9, 2, 1);
+        y.push(7, 1);
+        y.tick(1);
+        y.checkpoint();
+        y.tick(2);
+        due("held", y.instance(1, 0, 1), 1);
+        y.tick(1);
+        due("put", y.instance(1, 0, 1), 0);
+    }
+
     private static PipelineSimulator aligning() {
         PipelineSimulator x = with("c(3)|s(5)2", 1, 9, 4, 1);
         x.push(7, 1);
@@ -564,6 +610,15 @@ public final class PromisesTest {
         x.tick(200);
         due("replayed", x.state(1, 3, 0), 17);
         due("replayed ones count", x.operator(1, 4), 6);
+        PipelineSimulator old = with("", 2, 9, 2, 1);
+        old.push(1, 1);
+        old.tick(3);
+        due("age", old.channel(0, 0, 0, 3), 2);
+        old.fail();
+        due("no open batch", old.channel(0, 0, 0, 1), 0);
+        old.tick(1);
+        due("a new open batch", old.channel(0, 0, 0, 1), 1);
+        due("its age", old.channel(0, 0, 0, 3), 0);
         PipelineSimulator y = aligning();
         y.fail();
         due("nothing is stopped", y.instance(3, 0, 2), 0);
@@ -672,6 +727,11 @@ public final class PromisesTest {
         for (int what = 0; what <= 9; what++) {
             due("count(" + what + ")", x.count(what), last[what]);
         }
+        PipelineSimulator y = with("c(3)", 1, 9, 2, 1);
+        pushAll(y, 7, 1, 2, 3);
+        y.tick(3);
+        due("the list of the last stage", y.instance(1, 0, 0), 2);
+        due("is counted", y.count(8), 2);
         due("count(10)", x.count(10), BAD);
         for (int far : FAR) {
             due("count(" + far + ")", x.count(far), BAD);
@@ -746,6 +806,24 @@ public final class PromisesTest {
         due("keys", y.instance(2, 1, 5), 1);
         due("no keys", y.instance(2, 0, 5), 0);
         due("pointer", y.instance(3, 0, 3), 1);
+        // the pointer goes over an empty channel, and on to the next one
+        PipelineSimulator z = with("m(1,0)3|d2", 1, 9, 4, 1);
+        pushAll(z, 7, 1, 2, 3, 4);
+        z.tick(2);
+        due("pointer", z.instance(2, 1, 3), 0);
+        z.tick(1);
+        due("after channel 0", z.instance(2, 1, 3), 1);
+        z.tick(1);
+        due("after channel 1", z.instance(2, 1, 3), 2);
+        z.tick(2);
+        due("round to channel 0", z.instance(2, 1, 3), 1);
+        due("the other one", z.instance(2, 0, 3), 0);
+        // ascending from the pointer: channel 0 is empty, 1 comes before 2
+        PipelineSimulator f = with("f(2,0)3|d", 1, 9, 4, 5);
+        pushAll(f, 7, -1, 1, 2);
+        f.tick(3);
+        due("the last one is of channel 2", f.state(2, 7, 0), 2);
+        due("from the last one to the first", f.instance(2, 0, 3), 0);
         due("the third of three", with("d3", 1, 1, 2, 1).instance(1, 2, 0), 0);
     }
 
@@ -875,6 +953,24 @@ public final class PromisesTest {
         due("of the second record", y.latency(-1), 2);
         due("least", y.latency(0), 3);
         due("greatest", y.latency(100), 4);
+        y.clear();
+        due("none after clear", y.latency(-2), NONE);
+        y.configure(1, 1, 2, 5);
+        pushAll(y, 1, 1, 2);
+        y.tick(200);
+        due("a new sum", y.latency(-2), 6);
+        due("a new number", y.latency(-1), 2);
+        due("a new least", y.latency(0), 3);
+        due("a new greatest", y.latency(100), 3);
+        PipelineSimulator old = with("", 1, 1, 2, 1);
+        old.push(1, 1);
+        old.tick(200);
+        due("a short one", old.latency(0), 1);
+        old.clear();
+        old.configure(2, 3, 2, 2);
+        old.push(1, 1);
+        old.tick(200);
+        due("the short one is forgotten", old.latency(0), 3);
         PipelineSimulator z = with("c(3)|c(3)|c(3)|c(3)", 4, 9, 4, 1);
         pushAll(z, 3, 1, 2, 3);
         z.tick(200);
@@ -916,6 +1012,15 @@ public final class PromisesTest {
         due("a new pipeline", x.plain(3, 0), NONE);
         x.tick(200);
         due("a new pipeline", x.plain(3, 0), 9);
+        x = quiet("c(2)", 3, 1, 2);
+        due("before", x.plain(3, 0), 8);
+        read(x, "d");
+        x.tick(200);
+        due("a new pipeline, the same offset", x.plain(3, 0), 3);
+        x.clear();
+        pushAll(x, 3, 7, 8);
+        x.tick(200);
+        due("a new input, the same offset", x.plain(3, 0), 15);
         // in depth: all of the first copy comes before the second one
         dueResult("c(2)|k(0,1)|c(2)|d", 5, 1, 1 + 2 + 3, 3, 1);
     }
@@ -1102,6 +1207,10 @@ public final class PromisesTest {
         }
         due("instances stay", x.operator(1, 1), 2);
         due("counter", x.instance(1, 1, 4), 0);
+        x.fail();
+        due("counter of checkpoint 0", x.instance(1, 1, 4), 0);
+        x.clear();
+        due("no failure", x.count(6), 0);
         due("no barrier", x.instance(0, 0, 1), 0);
         due("latencies", x.latency(-1), NONE);
         due("the text stays", x.append('|', 1), 2);
