@@ -1,14 +1,5 @@
 /** The promises one by one: ordinary calls, the edges that the document names, and wrong arguments. */
-public final class PromisesTest {
-    private static final int NONE = -1000000001;
-    private static final int BAD = -1000000002;
-    private static final int FULL = -1000000003;
-    private static final int BEGUN = -1000000004;
-    private static final int BUSY = -1000000005;
-    private static final int[] FAR = {-1, Integer.MIN_VALUE, Integer.MAX_VALUE};
-    private static int wrong = 0;
-    private static String promise = "";
-
+public final class PromisesTest extends Calls {
     public static void main(String[] args) {
         constants();
         newObject();
@@ -45,63 +36,11 @@ public final class PromisesTest {
         write();
         written();
         clear();
-        if (wrong > 0) {
-            System.exit(1);
-        }
-    }
-
-    private static void due(String call, int got, int want) {
-        if (got != want) {
-            wrong++;
-            System.out.println(promise + ": " + call + " answered " + got + ", due is " + want);
-        }
-    }
-
-    private static int type(PipelineSimulator x, String text) {
-        int length = 0;
-        for (int i = 0; i < text.length(); i++) {
-            length = x.append(text.charAt(i), 1);
-        }
-        return length;
-    }
-
-    private static int read(PipelineSimulator x, String text) {
-        type(x, text);
-        return x.readPipeline();
-    }
-
-    private static PipelineSimulator with(String text, int size, int age, int credits, int rate) {
-        PipelineSimulator x = new PipelineSimulator();
-        read(x, text);
-        x.configure(size, age, credits, rate);
-        return x;
-    }
-
-    private static void pushAll(PipelineSimulator x, int key, int... values) {
-        for (int value : values) {
-            x.push(key, value);
-        }
-    }
-
-    private static String textOf(PipelineSimulator x) {
-        StringBuilder text = new StringBuilder();
-        int length = x.write();
-        for (int i = 0; i < length; i++) {
-            text.append((char) x.written(i));
-        }
-        return text.toString();
-    }
-
-    private static void dueText(PipelineSimulator x, String want) {
-        String got = textOf(x);
-        if (!got.equals(want)) {
-            wrong++;
-            System.out.println(promise + ": wrote " + got + ", due is " + want);
-        }
+        exitIfWrong();
     }
 
     private static void constants() {
-        promise = "constants";
+        about("constants");
         due("NONE", PipelineSimulator.NONE, NONE);
         due("BAD_ARGUMENT", PipelineSimulator.BAD_ARGUMENT, BAD);
         due("FULL", PipelineSimulator.FULL, FULL);
@@ -110,7 +49,7 @@ public final class PromisesTest {
     }
 
     private static void newObject() {
-        promise = "1";
+        about("Promise 1");
         PipelineSimulator x = new PipelineSimulator();
         due("count(0)", x.count(0), 2);
         for (int what = 1; what <= 9; what++) {
@@ -128,7 +67,7 @@ public final class PromisesTest {
     }
 
     private static void append() {
-        promise = "2";
+        about("Promise 2");
         PipelineSimulator x = new PipelineSimulator();
         due("append(0, 1)", x.append(0, 1), 1);
         due("append(127, 2)", x.append(127, 2), 3);
@@ -150,7 +89,7 @@ public final class PromisesTest {
     }
 
     private static void readPipelineTexts() {
-        promise = "3";
+        about("Promise 3");
         String[] good = {"", "$1", "$3", "d", "r3", "m(1,2)", "m(-99,99)2", "m(00,-0)", "k(1,-1)", "f(0,0)", "f(2,-99)3",
             "f(02,1)", "c(0)", "c(3)", "c(-0)", "c(03)", "s(1)", "s(5)3$2", "s(05)", "d|r|d|r$3", "m(1,2)|f(1,2)|k(3,4)|c(1)"};
         int[] stages = {0, 0, 0, 1, 1, 1, 1, 1, 1, 1, 1, 1, 1, 1, 1, 1, 1, 1, 1, 4, 4};
@@ -171,7 +110,7 @@ public final class PromisesTest {
     }
 
     private static void readPipelineBeginsAnew() {
-        promise = "3";
+        about("Promise 3");
         PipelineSimulator x = with("c(2)3", 1, 1, 2, 5);
         pushAll(x, 3, 4, 5);
         x.tick(200);
@@ -224,7 +163,7 @@ public final class PromisesTest {
     }
 
     private static void configure() {
-        promise = "4";
+        about("Promise 4");
         PipelineSimulator x = new PipelineSimulator();
         due("least", x.configure(1, 1, 2, 1), 2322);
         due("greatest", x.configure(4, 9, 4, 5), 1121);
@@ -251,7 +190,7 @@ public final class PromisesTest {
     }
 
     private static void push() {
-        promise = "5";
+        about("Promise 5");
         PipelineSimulator x = new PipelineSimulator();
         due("push(0, -99)", x.push(0, -99), 1);
         due("push(15, 99)", x.push(15, 99), 2);
@@ -273,7 +212,7 @@ public final class PromisesTest {
     }
 
     private static void tickTimes() {
-        promise = "6";
+        about("Promise 6");
         PipelineSimulator x = new PipelineSimulator();
         due("tick(0)", x.tick(0), BAD);
         due("tick(201)", x.tick(201), BAD);
@@ -298,7 +237,7 @@ public final class PromisesTest {
     }
 
     private static void tickAges() {
-        promise = "6, ages";
+        about("Promise 6, ages");
         PipelineSimulator x = with("", 3, 2, 2, 2);
         x.push(3, 5);
         x.tick(1);
@@ -326,17 +265,8 @@ public final class PromisesTest {
         due("closed when there is room", y.state(1, 3, 1), 3);
     }
 
-    private static PipelineSimulator blockedSource(int records) {
-        PipelineSimulator x = with("", 1, 3, 2, 5);
-        for (int i = 1; i <= records; i++) {
-            x.push(3, i);
-        }
-        x.tick(1);
-        return x;
-    }
-
     private static void tickBlocks() {
-        promise = "6, credits";
+        about("Promise 6, credits");
         PipelineSimulator x = blockedSource(6);
         due("queue", x.channel(0, 0, 0, 0), 2);
         due("open", x.channel(0, 0, 0, 1), 1);
@@ -364,24 +294,8 @@ public final class PromisesTest {
         due("the budget ended", z.operator(0, 6) + z.operator(0, 7), 0);
     }
 
-    private static PipelineSimulator quiet(String text, int key, int... values) {
-        PipelineSimulator x = with(text, 1, 1, 4, 5);
-        pushAll(x, key, values);
-        x.tick(200);
-        return x;
-    }
-
-    private static void dueResult(String text, int key, int sinkKey, int sum, int number, int... values) {
-        PipelineSimulator x = quiet(text, key, values);
-        int sink = x.count(0) - 1;
-        due(text + " sum", x.state(sink, sinkKey, 0), sum);
-        due(text + " number", x.state(sink, sinkKey, 1), number);
-        due(text + " plain sum", x.plain(sinkKey, 0), sum);
-        due(text + " plain number", x.plain(sinkKey, 1), number);
-    }
-
     private static void stageKinds() {
-        promise = "6, kinds";
+        about("Promise 6, kinds");
         dueResult("m(-3,7)", 5, 5, -3 * 6 + 21, 3, 1, 2, 3);
         dueResult("m(99,99)|m(99,99)|m(99,99)|m(99,99)", 1, 1, (((99 * 99 + 99) * 99 + 99) * 99 + 99) * 99 + 99, 1, 99);
         dueResult("f(0,2)", 5, 5, 1, 1, 1, 2, 3);
@@ -412,7 +326,7 @@ public final class PromisesTest {
     }
 
     private static void targets() {
-        promise = "6, targets";
+        about("Promise 6, targets");
         PipelineSimulator x = with("d3", 4, 9, 4, 5);
         for (int key = 0; key < 5; key++) {
             x.push(key, 1);
@@ -440,7 +354,7 @@ public final class PromisesTest {
     }
 
     private static void isQuiet() {
-        promise = "7";
+        about("Promise 7");
         PipelineSimulator x = new PipelineSimulator();
         due("new", x.isQuiet(), 1);
         x.push(1, 1);
@@ -464,7 +378,7 @@ public final class PromisesTest {
     }
 
     private static void checkpoint() {
-        promise = "8";
+        about("Promise 8");
         PipelineSimulator x = new PipelineSimulator();
         due("the first", x.checkpoint(), 1);
         due("running", x.count(5), 1);
@@ -497,7 +411,7 @@ public final class PromisesTest {
     }
 
     private static void barrierWithoutRoom() {
-        promise = "8, room";
+        about("Promise 8, room");
         PipelineSimulator x = with("c(3)|d2", 1, 9, 2, 1);
         x.push(7, 1);
         x.tick(1);
@@ -526,17 +440,8 @@ public final class PromisesTest {
         due("put", y.instance(1, 0, 1), 0);
     }
 
-    private static PipelineSimulator aligning() {
-        PipelineSimulator x = with("c(3)|s(5)2", 1, 9, 4, 1);
-        x.push(7, 1);
-        x.tick(1);
-        x.checkpoint();
-        x.tick(4);
-        return x;
-    }
-
     private static void alignment() {
-        promise = "8, alignment";
+        about("Promise 8, alignment");
         PipelineSimulator x = aligning();
         due("stopped", x.instance(3, 0, 2), 1);
         due("pointer", x.instance(3, 0, 3), 1);
@@ -564,7 +469,7 @@ public final class PromisesTest {
     }
 
     private static void checkpointOfSourceList() {
-        promise = "8, source";
+        about("Promise 8, source");
         PipelineSimulator x = with("m(1,0)", 1, 9, 2, 5);
         pushAll(x, 1, 1, 2, 3, 4, 5, 6);
         x.tick(1);
@@ -583,7 +488,7 @@ public final class PromisesTest {
     }
 
     private static void fail() {
-        promise = "9";
+        about("Promise 9");
         PipelineSimulator x = new PipelineSimulator();
         due("at first", x.fail(), 0);
         x = blockedSource(4);
@@ -636,7 +541,7 @@ public final class PromisesTest {
     }
 
     private static void rescale() {
-        promise = "10";
+        about("Promise 10");
         PipelineSimulator x = keyed();
         due("rescale(0, 1)", x.rescale(0, 1), NONE);
         due("rescale(4, 1)", x.rescale(4, 1), NONE);
@@ -677,7 +582,7 @@ public final class PromisesTest {
     }
 
     private static void rescaleCounters() {
-        promise = "10, counters";
+        about("Promise 10, counters");
         PipelineSimulator x = with("m(1,0)2|m(1,0)3", 1, 9, 4, 5);
         pushAll(x, 1, 1, 2, 3, 4, 5);
         x.tick(200);
@@ -708,7 +613,7 @@ public final class PromisesTest {
     }
 
     private static void count() {
-        promise = "11";
+        about("Promise 11");
         PipelineSimulator x = with("d|c(2)", 1, 3, 2, 5);
         for (int i = 1; i <= 6; i++) {
             x.push(3, i);
@@ -739,7 +644,7 @@ public final class PromisesTest {
     }
 
     private static void operator() {
-        promise = "12";
+        about("Promise 12");
         PipelineSimulator x = with("m(3,-4)2|f(2,5)|k(7,8)|c(3)3$2", 1, 1, 2, 1);
         int[][] parts = {{7, 1, 0, 0}, {0, 2, 3, -4}, {1, 1, 2, 5}, {2, 1, 7, 8}, {3, 3, 3, 0}, {8, 2, 0, 0}};
         for (int o = 0; o < 6; o++) {
@@ -785,7 +690,7 @@ public final class PromisesTest {
     }
 
     private static void instance() {
-        promise = "13";
+        about("Promise 13");
         PipelineSimulator x = blockedSource(6);
         x.checkpoint();
         int[] source = {1, 1, 0, 0, 0, 0};
@@ -828,7 +733,7 @@ public final class PromisesTest {
     }
 
     private static void channel() {
-        promise = "14";
+        about("Promise 14");
         PipelineSimulator x = with("", 2, 9, 3, 5);
         pushAll(x, 1, 1, 2, 3, 4, 5);
         x.tick(1);
@@ -864,7 +769,7 @@ public final class PromisesTest {
     }
 
     private static void state() {
-        promise = "15";
+        about("Promise 15");
         PipelineSimulator x = quiet("s(3)2|m(1,0)", 12, 4, 5);
         due("sum", x.state(1, 12, 0), 9);
         due("number", x.state(1, 12, 1), 2);
@@ -889,7 +794,7 @@ public final class PromisesTest {
     }
 
     private static void savedState() {
-        promise = "16";
+        about("Promise 16");
         PipelineSimulator x = quiet("s(3)2|m(1,0)", 12, 4, 5);
         due("checkpoint 0", x.savedState(1, 12, 0), NONE);
         x.checkpoint();
@@ -919,7 +824,7 @@ public final class PromisesTest {
     }
 
     private static void latency() {
-        promise = "17";
+        about("Promise 17");
         PipelineSimulator x = with("", 2, 3, 2, 2);
         for (int what = -2; what <= 100; what++) {
             due("none", x.latency(what), NONE);
@@ -980,7 +885,7 @@ public final class PromisesTest {
     }
 
     private static void plain() {
-        promise = "18";
+        about("Promise 18");
         PipelineSimulator x = with("s(2)3|c(2)2", 1, 1, 2, 2);
         pushAll(x, 3, 1, 2, 3, 4);
         due("nothing read", x.plain(3, 0), NONE);
@@ -1025,18 +930,8 @@ public final class PromisesTest {
         dueResult("c(2)|k(0,1)|c(2)|d", 5, 1, 1 + 2 + 3, 3, 1);
     }
 
-    private static void dueLevels(PipelineSimulator x, int operator, int instance, int... levels) {
-        String call = "explain(" + operator + ", " + instance + ")";
-        due(call, x.explain(operator, instance), levels.length / 2);
-        for (int i = 0; i < levels.length; i += 2) {
-            due(call + " place " + i / 2, x.explanation(i / 2, 0), levels[i]);
-            due(call + " reason " + i / 2, x.explanation(i / 2, 1), levels[i + 1]);
-        }
-        due(call + " has no more", x.explanation(levels.length / 2, 0), NONE);
-    }
-
     private static void explain() {
-        promise = "19";
+        about("Promise 19");
         PipelineSimulator x = new PipelineSimulator();
         dueLevels(x, 0, 0, 0, 4);
         dueLevels(x, 1, 0, 10, 4);
@@ -1065,7 +960,7 @@ public final class PromisesTest {
     }
 
     private static void explainBarrier() {
-        promise = "19, barrier";
+        about("Promise 19, barrier");
         PipelineSimulator x = blockedSource(3);
         dueLevels(x, 0, 0, 0, 4);
         x.checkpoint();
@@ -1090,7 +985,7 @@ public final class PromisesTest {
     }
 
     private static void explainAlignment() {
-        promise = "19, alignment";
+        about("Promise 19, alignment");
         PipelineSimulator x = aligning();
         dueLevels(x, 3, 0, 30, 3, 21, 5);
         x.tick(1);
@@ -1110,7 +1005,7 @@ public final class PromisesTest {
     }
 
     private static void explanation() {
-        promise = "20";
+        about("Promise 20");
         PipelineSimulator x = blockedSource(4);
         due("none at first", x.explanation(0, 0), NONE);
         due("none before bad", x.explanation(0, 2), NONE);
@@ -1135,7 +1030,7 @@ public final class PromisesTest {
     }
 
     private static void write() {
-        promise = "21";
+        about("Promise 21");
         String[] same = {"", "$2", "$3", "d", "r3", "m(-99,99)2", "k(-1,0)", "f(2,-99)3", "c(0)", "s(5)3$2",
             "m(-99,-99)3|m(-99,-99)3|m(-99,-99)3|m(-99,-99)3$3"};
         for (String text : same) {
@@ -1159,7 +1054,7 @@ public final class PromisesTest {
     }
 
     private static void written() {
-        promise = "22";
+        about("Promise 22");
         PipelineSimulator x = new PipelineSimulator();
         read(x, "d2$3");
         due("empty at first", x.written(0), NONE);
@@ -1181,7 +1076,7 @@ public final class PromisesTest {
     }
 
     private static void clear() {
-        promise = "23";
+        about("Promise 23");
         PipelineSimulator x = new PipelineSimulator();
         due("nothing to remove", x.clear(), 0);
         x = with("d3|c(2)", 1, 1, 4, 5);
