@@ -95,6 +95,29 @@ abstract class Calls {
         return x;
     }
 
+    /** The barrier of instance 0 has come to the sink, with records behind it; instance 1 still has records before its barrier. */
+    static PipelineSimulator delayedBarrier() {
+        PipelineSimulator x = with("c(3)|d2", 1, 9, 4, 1);
+        x.push(7, 1);
+        x.tick(1);
+        x.checkpoint();
+        x.push(0, 50);
+        x.tick(4);
+        return x;
+    }
+
+    /** Down from the source to an instance that aligns, up to the one that it waits for, and down again to the sink. */
+    static PipelineSimulator eightLevels() {
+        PipelineSimulator x = with("c(3)|d2|d2|c(1)2", 1, 2, 2, 2);
+        for (int i = 0; i < 60; i++) {
+            x.push(i * 13 % 16, i);
+        }
+        x.tick(25);
+        x.checkpoint();
+        x.tick(12);
+        return x;
+    }
+
     static void completeCheckpoint(PipelineSimulator x) {
         x.checkpoint();
         x.tick(200);

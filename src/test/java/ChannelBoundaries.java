@@ -147,6 +147,18 @@ final class ChannelBoundaries extends Calls {
         due("the next one is new, too", x.channel(0, 0, 0, 3), 0);
     }
 
+    @Holds(at = "Channels", says = "A new open batch has the age 0.")
+    static void oneRecordMoreDoesNotMakeTheOpenBatchNew() {
+        PipelineSimulator x = with("", 4, 9, 2, 1);
+        x.push(3, 1);
+        x.tick(3);
+        due("age", x.channel(0, 0, 0, 3), 2);
+        pushAll(x, 3, 2, 3);
+        x.tick(2);
+        due("records", x.channel(0, 0, 0, 1), 3);
+        due("age", x.channel(0, 0, 0, 3), 4);
+    }
+
     @Holds(at = "Channels", says = "A barrier can be put if the queue has room for it and for the open batch")
     static void aBarrierAndTheOpenBatchNeedRoomForTwo() {
         PipelineSimulator x = with("c(3)", 1, 9, 2, 1);
@@ -471,6 +483,36 @@ final class ChannelBoundaries extends Calls {
         due("behind channel 0", x.instance(2, 0, 3), 1);
     }
 
+    /** Three channels into one instance of d; of the instances before, only those with a value above 0 send it. */
+    private static PipelineSimulator threeChannels(int... values) {
+        PipelineSimulator x = with("f(2,0)3|d", 1, 9, 4, 3);
+        pushAll(x, 7, values);
+        x.tick(3);
+        return x;
+    }
+
+    @Holds(at = "Working", says = "Beginning with the pointer, and going on in ascending order and from the last one to the first one")
+    static void theSearchAscendsFromThePointer() {
+        // from 0: 1 comes before 2
+        PipelineSimulator x = threeChannels(-1, 5, 6);
+        due("the last one is of channel 2", x.state(2, 7, 0), 6);
+        due("pointer", x.instance(2, 0, 3), 0);
+        // from 1: 2 comes before 0
+        PipelineSimulator y = threeChannels(1, -1, -1);
+        due("pointer", y.instance(2, 0, 3), 1);
+        pushAll(y, 7, 5, -1, 6);
+        y.tick(3);
+        due("the last one is of channel 0", y.state(2, 7, 0), 5);
+        due("pointer", y.instance(2, 0, 3), 1);
+        // from 2: 0 comes before 1
+        PipelineSimulator z = threeChannels(-1, 1, -1);
+        due("pointer", z.instance(2, 0, 3), 2);
+        pushAll(z, 7, 5, 6, -1);
+        z.tick(3);
+        due("the last one is of channel 1", z.state(2, 7, 0), 6);
+        due("pointer", z.instance(2, 0, 3), 2);
+    }
+
     @Holds(at = "Working", says = "the pointer then is the number after that channel, modulo the number of channels")
     static void thePointerWrapsAroundBehindTheLastChannel() {
         PipelineSimulator x = with("c(1)3", 1, 9, 4, 1);
@@ -515,12 +557,7 @@ final class ChannelBoundaries extends Calls {
 
     @Holds(at = "Working", says = "first item of the first channel that is not stopped and whose queue is not empty")
     static void aStoppedChannelIsPassedOver() {
-        PipelineSimulator x = with("c(3)|d2", 1, 9, 4, 1);
-        x.push(7, 1);
-        x.tick(1);
-        x.checkpoint();
-        x.push(0, 50);
-        x.tick(4);
+        PipelineSimulator x = delayedBarrier();
         due("the barrier of instance 0 has come", x.instance(3, 0, 2), 1);
         x.tick(1);
         due("records wait behind it", x.channel(2, 0, 0, 0), 2);

@@ -89,6 +89,57 @@ final class CheckpointBoundaries extends Calls {
         dueSaved(x, 3, 7, NONE, NONE);
     }
 
+    @Holds(at = "Checkpoints", says = "When all of its input channels are stopped, none is stopped any more, the state of the instance")
+    static void whatComesBetweenTheFirstAndTheLastBarrierIsSaved() {
+        PipelineSimulator x = delayedBarrier();
+        due("the first barrier has come", x.instance(3, 0, 2), 1);
+        dueState(x, 3, 7, 1, 1);
+        x.tick(2);
+        due("the last one has not", x.instance(3, 0, 2), 1);
+        dueState(x, 3, 7, 1 + 2 + 3, 3);
+        x.tick(200);
+        due("complete", x.count(4), 1);
+        dueState(x, 3, 0, 50 + 51 + 52, 3);
+        dueSaved(x, 3, 0, NONE, NONE);
+        dueSaved(x, 3, 7, 1 + 2 + 3, 3);
+    }
+
+    @Holds(at = "Checkpoints", says = "the state of the instance, which consists of its states for keys and its counter, is saved")
+    static void anInstanceSavesItsOwnKeysAndNoOthers() {
+        // instance 0 has processed what is behind its barrier when instance 1 saves
+        PipelineSimulator x = delayedBarrier();
+        dueState(x, 2, 0, 50, 0);
+        due("instance 1 has not saved", x.channel(1, 0, 1, 0), 1);
+        x.tick(200);
+        due("complete", x.count(4), 1);
+        dueSaved(x, 2, 0, NONE, NONE);
+        dueSaved(x, 2, 7, 3, 0);
+        // and the other way round
+        PipelineSimulator y = with("c(3)|d2", 1, 9, 4, 1);
+        pushAll(y, 0, 1);
+        y.tick(1);
+        y.checkpoint();
+        pushAll(y, 7, 50);
+        y.tick(200);
+        dueSaved(y, 2, 0, 3, 0);
+        dueSaved(y, 2, 7, NONE, NONE);
+        dueState(y, 2, 7, 52, 0);
+    }
+
+    @Holds(at = "Checkpoints", says = "the state of the instance, which consists of its states for keys and its counter, is saved")
+    static void anInstanceSavesItsCounterBeforeWhatIsBehindTheBarrier() {
+        PipelineSimulator x = with("c(3)|c(1)2", 1, 9, 4, 5);
+        pushAll(x, 7, 1);
+        x.tick(1);
+        x.checkpoint();
+        pushAll(x, 7, 2, 3);
+        x.tick(200);
+        due("counter", x.instance(1, 0, 4), 9);
+        x.fail();
+        due("counter as it was", x.instance(1, 0, 4), 3);
+        due("counter of the source", x.instance(0, 0, 4), 1);
+    }
+
     @Holds(at = "Checkpoints", says = "and it holds the barrier, unless it is an instance of the sink")
     static void aStageHoldsTheBarrierAndTheSinkDoesNot() {
         PipelineSimulator x = with("c(3)", 1, 9, 2, 1);
@@ -409,6 +460,21 @@ final class CheckpointBoundaries extends Calls {
         }
     }
 
+    @Holds(at = "Rescaling", says = "and the counters of its instances are 0, also in the saved checkpoint")
+    static void theCountersAreZeroAlsoWhenTheNumberIsTheSame() {
+        PipelineSimulator x = with("c(1)2|c(1)2", 1, 1, 4, 5);
+        pushAll(x, 3, 1, 2, 3);
+        x.tick(200);
+        completeCheckpoint(x);
+        x.rescale(1, 2);
+        due("counter of the source", x.instance(0, 0, 4), 3);
+        due("counter of instance 0", x.instance(1, 0, 4), 0);
+        due("counter of instance 1", x.instance(1, 1, 4), 0);
+        due("counter of the next operator", x.instance(2, 0, 4), 0);
+        x.fail();
+        due("saved counter of instance 0", x.instance(1, 0, 4), 0);
+    }
+
     @Holds(at = "Rescaling", says = "To rescale an operator means: a failure")
     static void rescalingDiscardsARunningCheckpointAndEmptiesAll() {
         PipelineSimulator x = aligning();
@@ -482,6 +548,22 @@ final class CheckpointBoundaries extends Calls {
         duePlain(x, 3, NONE, NONE);
         x.tick(1);
         duePlain(x, 3, 1, 1);
+    }
+
+    @Holds(at = "Plain results", says = "the records of the input from 0 to the offset - 1")
+    static void thePlainResultsGoBackWithTheOffset() {
+        PipelineSimulator x = with("s(2)|d", 1, 1, 4, 5);
+        pushAll(x, 3, 1, 2, 3);
+        x.tick(200);
+        completeCheckpoint(x);
+        pushAll(x, 3, 4);
+        x.tick(200);
+        duePlain(x, 3, 3 + 7, 2);
+        x.fail();
+        due("offset", x.count(2), 3);
+        duePlain(x, 3, 3, 1);
+        x.tick(200);
+        duePlain(x, 3, 3 + 7, 2);
     }
 
     @Holds(at = "Plain results", says = "the records of the input from 0 to the offset - 1")
@@ -642,14 +724,7 @@ final class CheckpointBoundaries extends Calls {
 
     @Holds(at = "Explanations", says = "A level with the reason 4 or 5 is the last one, and so is level 7.")
     static void anExplanationOfAllEightLevels() {
-        // down to an instance that aligns, up to the one that it waits for, and down again to the sink; no chain can be longer
-        PipelineSimulator x = with("c(3)|d2|d2|c(1)2", 1, 2, 2, 2);
-        for (int i = 0; i < 60; i++) {
-            x.push(i * 13 % 16, i);
-        }
-        x.tick(25);
-        x.checkpoint();
-        x.tick(12);
+        PipelineSimulator x = eightLevels();
         dueLevels(x, 0, 0, 0, 1, 10, 1, 20, 1, 30, 3, 21, 2, 31, 1, 40, 1, 50, 5);
         due("no level 8", x.explanation(8, 0), NONE);
     }

@@ -1,28 +1,30 @@
 import java.util.Arrays;
+import java.util.List;
 import java.util.Random;
-import java.util.function.IntBinaryOperator;
 
-/** Long mixed runs, with fixed seeds: the class and the model answer alike, and all that can be seen is alike after each call. */
+/** Mixed runs with fixed seeds: the class and the model answer alike. No object is asked more than its 512 calls. */
 public final class ModelTest {
-    private static final int RUNS = 600;
-    private static final int CALLS = 120;
+    private static final int RUNS = 20000;
+    private static final int CALLS = 512;
+    /** A new pipeline is typed sign by sign, and up to 50 records are pushed. */
+    private static final int DEAREST_CALL = 130;
     private static final int[] ODD = {-1, 0, 1, 2, 3, 16, 60, 61, 127, 128, 200, 201, Integer.MAX_VALUE, Integer.MIN_VALUE};
+    private static final int[] CROWDING = {0, 2, 3, 3, 7, 5, 6};
     private static final int[] seen = new int[6];
     private static int deepest = 0;
     private static int wrong = 0;
-    private static String story = "";
-
-    private static final int[] CROWDING = {0, 2, 3, 3, 7, 5, 6};
 
     private final Random random;
     private final boolean crowded;
     private final PipelineSimulator real = new PipelineSimulator();
     private final Model model = new Model();
+    private final StringBuilder story = new StringBuilder();
+    private int calls = 0;
 
     private ModelTest(long seed) {
         random = new Random(seed);
         crowded = random.nextInt(3) == 0;
-        story = "seed " + seed + ":";
+        story.append("seed ").append(seed).append(':');
     }
 
     public static void main(String[] args) {
@@ -50,9 +52,18 @@ public final class ModelTest {
         if (seed % 5 != 0) {
             setUp();
         }
-        for (int call = 0; call < CALLS && wrong < 10; call++) {
+        while (calls + DEAREST_CALL <= CALLS && wrong < 10) {
             oneCall();
-            compareAll();
+            if (model.running != 0) {
+                explainLongest();
+            }
+            int questions = random.nextInt(9);
+            for (int i = 0; i < questions && calls + DEAREST_CALL <= CALLS; i++) {
+                oneQuestion();
+            }
+        }
+        while (calls < CALLS - 20 && wrong < 10) {
+            oneQuestion();
         }
     }
 
@@ -181,52 +192,66 @@ public final class ModelTest {
         due("written" + with, real.written(a), model.written(a));
     }
 
-    private void compareAll() {
-        due("isQuiet()", real.isQuiet(), model.isQuiet(), false);
-        for (int what = -1; what <= 10; what++) {
-            due("count(" + what + ")", real.count(what), model.count(what), false);
-        }
-        for (int what = -3; what <= 101; what += what < 2 || what > 97 ? 1 : 7) {
-            due("latency(" + what + ")", real.latency(what), model.latency(what), false);
-        }
-        for (int o = -1; o <= 6; o++) {
-            compareOperator(o);
-        }
-        square("plain", -1, 16, -1, 2, real::plain, model::plain);
-        square("explanation", -1, 8, -1, 2, real::explanation, model::explanation);
-        square("written", -1, 60, 0, 0, (i, none) -> real.written(i), (i, none) -> model.written(i));
+    /** A number from -1 to the one behind the last. */
+    private int upTo(int last) {
+        return random.nextInt(last + 3) - 1;
     }
 
-    private void compareOperator(int o) {
-        square("operator", o, o, -1, 8, real::operator, model::operator);
-        square("state of " + o, -1, 16, -1, 2, (k, s) -> real.state(o, k, s), (k, s) -> model.state(o, k, s));
-        square("savedState of " + o, -1, 16, -1, 2, (k, s) -> real.savedState(o, k, s), (k, s) -> model.savedState(o, k, s));
-        for (int i = -1; i <= 3; i++) {
-            int at = i;
-            square("instance of " + o, i, i, -1, 6, (x, w) -> real.instance(o, x, w), (x, w) -> model.instance(o, x, w));
-            square("channel of " + o + "," + i, -1, 3, -1, 5,
-                (to, w) -> real.channel(o, at, to, w), (to, w) -> model.channel(o, at, to, w));
-            due("explain(" + o + "," + i + ")", real.explain(o, i), model.explain(o, i), false);
-            square("explanation", -1, 8, -1, 2, real::explanation, model::explanation);
-            deepest = Math.max(deepest, real.explain(o, i));
-            for (int level = 0; level < 8; level++) {
-                int reason = real.explanation(level, 1);
-                if (reason > 0) {
-                    seen[reason]++;
-                }
+    private void oneQuestion() {
+        int o = upTo(5);
+        int i = upTo(2);
+        int j = upTo(2);
+        int key = random.nextBoolean() ? upTo(15) : random.nextInt(3);
+        int second = random.nextInt(6) == 0 ? upTo(1) : random.nextInt(2);
+        int what = upTo(9);
+        String with = "(" + o + "," + i + "," + j + "," + key + "," + second + "," + what + ")";
+        switch (random.nextInt(13)) {
+            case 0 -> due("isQuiet()", real.isQuiet(), model.isQuiet());
+            case 1 -> due("count" + with, real.count(what), model.count(what));
+            case 2 -> due("operator" + with, real.operator(o, what - 1), model.operator(o, what - 1));
+            case 3 -> due("instance" + with, real.instance(o, i, what / 2 + j), model.instance(o, i, what / 2 + j));
+            case 4 -> due("channel" + with, real.channel(o, i, j, what / 2), model.channel(o, i, j, what / 2));
+            case 5, 6 -> due("state" + with, real.state(o, key, second), model.state(o, key, second));
+            case 7 -> due("savedState" + with, real.savedState(o, key, second), model.savedState(o, key, second));
+            case 8 -> due("plain" + with, real.plain(key, second), model.plain(key, second));
+            case 9 -> {
+                int hundredths = random.nextBoolean() ? what - 3 : upTo(100);
+                due("latency(" + hundredths + ")", real.latency(hundredths), model.latency(hundredths));
             }
+            case 10 -> due("written" + with, real.written(what * 5), model.written(what * 5));
+            case 11 -> explainOne(o, i);
+            default -> explainLongest();
         }
     }
 
-    private void square(String name, int low, int high, int least, int most, IntBinaryOperator got, IntBinaryOperator want) {
-        for (int x = low; x <= high; x++) {
-            for (int y = least; y <= most; y++) {
-                int answer = got.applyAsInt(x, y);
-                int due = want.applyAsInt(x, y);
-                if (answer != due) {
-                    due(name + "(" + x + "," + y + ")", answer, due, false);
-                }
+    /** Most instances wait for nothing, so those with the longest explanation are asked after more often. */
+    private void explainLongest() {
+        List<int[]> kept = model.levels;
+        int longest = 0;
+        int[] place = {0, 0};
+        int first = random.nextInt(18);
+        for (int i = first; i < first + 18; i++) {
+            int levels = model.explain(i % 18 / 3, i % 3);
+            if (levels > longest) {
+                longest = levels;
+                place = new int[] {i % 18 / 3, i % 3};
             }
+        }
+        model.levels = kept;
+        if (longest > 1) {
+            explainOne(place[0], place[1]);
+        }
+    }
+
+    private void explainOne(int operator, int instance) {
+        int levels = model.explain(operator, instance);
+        due("explain(" + operator + "," + instance + ")", real.explain(operator, instance), levels);
+        deepest = Math.max(deepest, levels);
+        for (int level = 0; level <= Math.max(0, levels); level++) {
+            int reason = model.explanation(level, 1);
+            due("explanation(" + level + ",1)", real.explanation(level, 1), reason);
+            due("explanation(" + level + ",0)", real.explanation(level, 0), model.explanation(level, 0));
+            seen[reason > 0 ? reason : 0]++;
         }
     }
 
@@ -249,18 +274,13 @@ public final class ModelTest {
         run.due("readPipeline()", run.real.readPipeline(), run.model.readPipeline());
         run.due("write()", run.real.write(), run.model.write());
         for (int i = 0; i < run.model.written.length(); i++) {
-            run.due("written(" + i + ")", run.real.written(i), run.model.written(i), false);
+            run.due("written(" + i + ")", run.real.written(i), run.model.written(i));
         }
     }
 
     private void due(String call, int got, int want) {
-        due(call, got, want, true);
-    }
-
-    private void due(String call, int got, int want, boolean told) {
-        if (told) {
-            story += " " + call;
-        }
+        calls++;
+        story.append(' ').append(call);
         if (got != want) {
             wrong++;
             System.out.println(story + "\n  " + call + " answered " + got + ", the model says " + want);

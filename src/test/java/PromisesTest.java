@@ -992,16 +992,7 @@ public final class PromisesTest extends Calls {
         dueLevels(x, 3, 0, 30, 5);
         x.tick(1);
         dueLevels(x, 3, 0, 30, 4);
-        // down to an instance that aligns, up to the one that it waits for, and down again: all of the eight levels
-        PipelineSimulator y = with("c(3)|d2|d2|c(1)2", 1, 2, 2, 2);
-        for (int i = 0; i < 60; i++) {
-            y.push(i * 13 % 16, i);
-        }
-        y.tick(25);
-        y.checkpoint();
-        y.tick(12);
-        dueLevels(y, 0, 0, 0, 1, 10, 1, 20, 1, 30, 3, 21, 2, 31, 1, 40, 1, 50, 5);
-        due("no level 8", y.explanation(8, 0), NONE);
+        dueLevels(eightLevels(), 0, 0, 0, 1, 10, 1, 20, 1, 30, 3, 21, 2, 31, 1, 40, 1, 50, 5);
     }
 
     private static void explanation() {

@@ -649,6 +649,48 @@ final class QuestionBoundaries extends Calls {
     }
 
     @Holds(at = "Promise 23: clear", says = "begins the simulation anew with the same pipeline")
+    static void clearingEmptiesBlockedAndWaitingInstances() {
+        PipelineSimulator x = aligning();
+        due("removed", x.clear(), 1);
+        dueCounts(x, 4, 0, 0, 0, 0, 0, 0, 0, 0, 0);
+        due("stopped", x.instance(3, 0, 2), 0);
+        due("pointer", x.instance(3, 0, 3), 0);
+        due("keys", x.instance(2, 1, 5), 0);
+        PipelineSimulator y = blockedSource(6);
+        y.checkpoint();
+        due("blocked", y.operator(0, 6), 1);
+        due("removed", y.clear(), 6);
+        due("not blocked", y.operator(0, 6), 0);
+        due("no barrier is held", y.instance(0, 0, 1), 0);
+        due("quiet", y.isQuiet(), 1);
+    }
+
+    @Holds(at = "Promise 23: clear", says = "begins the simulation anew with the same pipeline")
+    static void nothingIsLeftOfLatenciesAndPlainResults() {
+        PipelineSimulator x = threeLatencies();
+        due("sum", x.latency(-2), 2 + 3 + 4);
+        duePlain(x, 3, 1 + 2 + 3, 3);
+        x.clear();
+        x.configure(1, 9, 4, 5);
+        x.push(3, 5);
+        x.tick(200);
+        due("number", x.latency(-1), 3);
+        due("sum", x.latency(-2), 2 + 2 + 2);
+        due("least", x.latency(0), 2);
+        due("greatest", x.latency(100), 2);
+        duePlain(x, 3, 5 + 6 + 7, 3);
+        PipelineSimulator y = with("", 1, 9, 4, 1);
+        y.push(3, 1);
+        y.tick(200);
+        due("a latency of one tick", y.latency(0), 1);
+        y.clear();
+        y.configure(2, 3, 4, 1);
+        y.push(3, 1);
+        y.tick(200);
+        due("the short one is gone", y.latency(0), 3);
+    }
+
+    @Holds(at = "Promise 23: clear", says = "begins the simulation anew with the same pipeline")
     static void aRescaledOperatorKeepsItsInstances() {
         PipelineSimulator x = reading("d|d3$2");
         x.rescale(1, 3);

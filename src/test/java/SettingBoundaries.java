@@ -109,6 +109,7 @@ final class SettingBoundaries extends Calls {
         pushAll(x, 3, 1, 2, 3, 4, 5);
         x.tick(3);
         x.checkpoint();
+        duePlain(x, 13, 11 + 16 + 21 + 26, 1);
         due("one stage", read(x, "d"), 1);
         int[][] operators = {{7, 1, 0, 0}, {5, 1, 0, 0}, {8, 1, 0, 0}};
         for (int operator = 0; operator <= 2; operator++) {
@@ -122,6 +123,11 @@ final class SettingBoundaries extends Calls {
         x.tick(200);
         dueState(x, 2, 3, 15, 5);
         due("quiet", x.isQuiet(), 1);
+        // the plain results of the same offset are those of the pipeline that is there
+        duePlain(x, 3, 15, 5);
+        read(x, "c(2)");
+        x.tick(200);
+        duePlain(x, 3, 15 + 20, 10);
     }
 
     @Holds(at = "Promise 3: readPipeline", says = "Reads the text as a pipeline, which replaces the present one.")
@@ -158,6 +164,26 @@ final class SettingBoundaries extends Calls {
         due("no latencies", x.latency(-1), NONE);
         duePlain(x, 3, NONE, NONE);
         due("the first checkpoint", x.checkpoint(), 1);
+    }
+
+    @Holds(at = "Promise 3: readPipeline", says = "The simulation begins anew")
+    static void readingEmptiesBlockedAndWaitingInstances() {
+        PipelineSimulator x = aligning();
+        read(x, "c(3)|s(5)2");
+        dueCounts(x, 4, 1, 0, 0, 0, 0, 0, 0, 0, 0);
+        due("stopped", x.instance(3, 0, 2), 0);
+        due("pointer", x.instance(3, 0, 3), 0);
+        x.tick(200);
+        dueState(x, 2, 7, 6, 3);
+        PipelineSimulator y = blockedSource(6);
+        y.checkpoint();
+        due("blocked", y.operator(0, 6), 1);
+        y.readPipeline();
+        due("not blocked", y.operator(0, 6), 0);
+        dueCounts(y, 2, 6, 0, 0, 0, 0, 0, 0, 0, 0);
+        due("no barrier is held", y.instance(0, 0, 1), 0);
+        y.tick(200);
+        dueState(y, 1, 3, 21, 6);
     }
 
     @Holds(at = "Promise 3: readPipeline", says = "The input and the settings stay; the text is empty afterwards, also after an error.")
